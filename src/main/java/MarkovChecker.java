@@ -36,7 +36,7 @@ public final class MarkovChecker {
     private static final int MATRIX_CELLS = MAX_STATES * MATRIX_WIDTH;
     // Every row total 1..MAX_ROW divides it, so one step of any row fits into twelfths.
     private static final int STEP_PARTS = 12;
-    // Euclid's algorithm on two longs needs fewer than 93 divisions.
+    // Euclid's algorithm on two longs needs fewer than 100 divisions.
     private static final int GCD_STEPS = 128;
 
     private final int states;
@@ -450,7 +450,8 @@ public final class MarkovChecker {
 
     /**
      * Gauss-Jordan elimination without fractions (Bareiss). Every entry stays a minor of the first
-     * matrix: at most 10 rows of length at most sqrt(32) keep it within 2^25, so the products fit.
+     * matrix. Unknown states stand beside at least one zero and one one, so there are at most 10
+     * rows, each of length at most sqrt(32): minors stay within 2^25, and the products fit a long.
      * From every unknown state some sequence leads out of the unknown ones, so all leading minors,
      * which are the pivots, are positive and no rows need changing places.
      */

@@ -14,7 +14,7 @@ public final class CheckTest {
         unboundedSets();
         loops();
         ruin();
-        retries();
+        tenInARow();
         thresholds();
         nested();
         checkAgain();
@@ -45,11 +45,10 @@ public final class CheckTest {
                 MarkovChecker m = new MarkovChecker(n);
                 int all = m.addAtom(MarkovChecker.ATOM_TRUE);
                 int until = m.addUntil(all, all, UNBOUNDED);
-                int state = s;
                 m.setWeight(s, s, 0);
                 due.refused("check() of an empty row", m, m::check, MarkovChecker.ERR_ROW);
                 due.same("not valid", m.probDen(until, 0), 0L);
-                due.same("not valid", m.holds(all, state), false);
+                due.same("not valid", m.holds(all, s), false);
                 m.setWeight(s, (s + 1) % n, 2);
                 due.same("check()", m.check(), OK);
                 due.value(m, until, s, 1, 1);
@@ -100,44 +99,41 @@ public final class CheckTest {
         due.value(m, until, 3, 0, 1);
     }
 
-    /** A walk 0, 1, 2, 3, 4 that fails to advance half the time; PHI leaves out state 2 at first. */
+    /** A walk 0, 1, 2, 3, 4 that stays half the time, so that each step on is a head of a coin. */
     private static void boundedSteps() {
         MarkovChecker m = new MarkovChecker(5);
         row(m, 0, 1, 1);
         row(m, 1, 0, 1, 1);
         row(m, 2, 0, 0, 1, 1);
         row(m, 3, 0, 0, 0, 1, 1);
-        int goal = atom(m, 0, 0b11000);
-        int all = m.addAtom(MarkovChecker.ATOM_TRUE);
-        int notTwo = atom(m, 1, 0b11011);
-        int[] chances = {0, 0, 0, 1, 4, 11, 26, 57, 120};
+        atom(m, 0, 0b11000);
+        atom(m, 1, 0b11011);
         for (int k = 0; k <= 8; k++) {
             m.clearFormulas();
-            goal = m.addAtom(0);
-            all = m.addAtom(MarkovChecker.ATOM_TRUE);
-            notTwo = m.addAtom(1);
+            int goal = m.addAtom(0);
+            int all = m.addAtom(MarkovChecker.ATOM_TRUE);
+            int notTwo = m.addAtom(1);
             int free = m.addUntil(all, goal, k);
             int barred = m.addUntil(notTwo, goal, k);
             due.same("check()", m.check(), OK);
-            // The third success within k tosses, where the chance of each is one half.
-            long want = successes(k, 3);
-            due.value(m, free, 0, reduced(want, 1L << k), (1L << k) / divisor(want, 1L << k));
+            long runs = 1L << k;
+            due.value(m, free, 0, reduced(heads(k, 3), runs), reduced(runs, heads(k, 3)));
+            due.value(m, free, 1, reduced(heads(k, 2), runs), reduced(runs, heads(k, 2)));
+            due.value(m, free, 2, reduced(heads(k, 1), runs), reduced(runs, heads(k, 1)));
             due.value(m, free, 3, 1, 1);
             due.value(m, free, 4, 1, 1);
             due.value(m, barred, 0, 0, 1);
+            due.value(m, barred, 1, 0, 1);
             due.value(m, barred, 2, 0, 1);
             due.value(m, barred, 3, 1, 1);
-            long two = (1L << k) - 1;
-            due.value(m, free, 2, reduced(two, 1L << k), (1L << k) / divisor(two, 1L << k));
         }
-        due.same("hand-counted", chances.length, 9);
     }
 
-    /** How many of the 2^k runs of tosses have at least so many heads. */
-    private static long successes(int k, int heads) {
+    /** How many of the 2^k runs of k tosses have at least so many heads. */
+    private static long heads(int k, int least) {
         long count = 0;
         for (int run = 0; run < 1 << k; run++) {
-            if (Integer.bitCount(run) >= heads) {
+            if (Integer.bitCount(run) >= least) {
                 count++;
             }
         }
@@ -148,11 +144,12 @@ public final class CheckTest {
         return b == 0 ? a : divisor(b, a % b);
     }
 
-    private static long reduced(long num, long den) {
-        return num / divisor(num, den);
+    /** What is left of a when the fraction of a and b is reduced. */
+    private static long reduced(long a, long b) {
+        return a / divisor(a, b);
     }
 
-    /** Eight steps of row total 4 and 3 from different states give 2^16 and 3^8 on the bottom. */
+    /** Eight steps through rows of total 4, of total 3, and of one total after the other. */
     private static void largeBoundedDenominators() {
         MarkovChecker m = new MarkovChecker(4);
         row(m, 0, 3, 0, 1);
@@ -167,7 +164,7 @@ public final class CheckTest {
         // 1/4 (1 - (3/4)^7) + 3/4 (1 - (2/3)^7), over 4^8 * 3^6 when reduced.
         long den = 65536L * 729;
         long num = (16384 - 2187) * 729L + (2187 - 128) * 16384L;
-        due.value(m, until, 3, reduced(num, den), den / divisor(num, den));
+        due.value(m, until, 3, reduced(num, den), reduced(den, num));
     }
 
     /**
@@ -235,7 +232,7 @@ public final class CheckTest {
         due.value(m, until, 5, 1, 2);
     }
 
-    /** A gambler's ruin over all twelve states: one up to down down, for 11 steps. */
+    /** A gambler's ruin over all twelve states: weight 1 up and 1 to 3 down. */
     private static void ruin() {
         for (int down = 1; down <= 3; down++) {
             MarkovChecker m = new MarkovChecker(12);
@@ -251,7 +248,7 @@ public final class CheckTest {
             long whole = upTo(down, 11);
             for (int s = 0; s < 12; s++) {
                 long part = upTo(down, s);
-                due.value(m, until, s, reduced(part, whole), whole / divisor(part, whole));
+                due.value(m, until, s, reduced(part, whole), reduced(whole, part));
             }
         }
     }
@@ -265,8 +262,8 @@ public final class CheckTest {
         return sum;
     }
 
-    /** Ten states in a row, each of which may start over, fail or go on: the longest denominators. */
-    private static void retries() {
+    /** Ten states in a row that go on or fail: 4^10, the greatest denominator of an unbounded until. */
+    private static void tenInARow() {
         MarkovChecker m = new MarkovChecker(12);
         for (int s = 0; s < 10; s++) {
             m.setWeight(s, s, 0);

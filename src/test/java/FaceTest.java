@@ -66,12 +66,12 @@ public final class FaceTest {
                 openNames.add(method.getName());
             }
         }
-        Set<String> due1 = new TreeSet<>();
+        Set<String> listed = new TreeSet<>();
         for (String one : wanted) {
             int space = one.indexOf(' ') + 1;
-            due1.add("public " + one.substring(0, space) + "MarkovChecker." + one.substring(space));
+            listed.add("public " + one.substring(0, space) + "MarkovChecker." + one.substring(space));
         }
-        due.same("open methods", open, due1);
+        due.same("open methods", open, listed);
         for (Method method : MarkovChecker.class.getDeclaredMethods()) {
             boolean hidden = Modifier.isPrivate(method.getModifiers());
             boolean named = openNames.contains(method.getName());
