@@ -1,13 +1,20 @@
-import java.util.function.IntSupplier;
+import java.util.function.Function;
+import java.util.function.Supplier;
 
 /** Compares answers with the ones that are due, and prints each that differs. */
 final class Due {
+    private String sentence = "";
     private int wrong = 0;
+
+    /** Names the sentence of the document that the answers from here on belong to. */
+    void of(String place, String words) {
+        sentence = place + ", \"" + words + "\": ";
+    }
 
     void same(String what, Object got, Object want) {
         if (!got.equals(want)) {
             wrong++;
-            System.out.println(what + " answered " + got + ", due is " + want);
+            System.out.println(sentence + what + " answered " + got + ", due is " + want);
         }
     }
 
@@ -23,22 +30,63 @@ final class Due {
         }
     }
 
-    /** The call is to answer code and change nothing, not even whether results are valid. */
-    void refused(String what, MarkovChecker m, IntSupplier call, int code) {
-        String before = picture(m);
-        same(what, call.getAsInt(), code);
-        same("picture after " + what, picture(m), before);
+    /**
+     * The call is to answer what is due and to change nothing at all, with results not valid before
+     * it and, if the object can be checked, with results valid.
+     */
+    void changesNothing(
+            String what, Supplier<MarkovChecker> make, Function<MarkovChecker, Object> call, Object answer) {
+        MarkovChecker unchecked = make.get();
+        same(what, call.apply(unchecked), answer);
+        alike(what + " with results not valid", unchecked, make.get());
+        MarkovChecker checked = make.get();
+        MarkovChecker twin = make.get();
+        if (checked.check() == MarkovChecker.OK) {
+            twin.check();
+            same(what, call.apply(checked), answer);
+            alike(what + " with results valid", checked, twin);
+        }
     }
 
     /**
-     * The call is to answer code and to make results not valid. Node i is to be an until node, at
-     * least until the call.
+     * The call is to answer what is due and to leave results not valid, whether they were valid or
+     * not. The object is to be one of Sample, for there is a node to ask.
      */
-    void accepted(String what, MarkovChecker m, int i, IntSupplier call, int code) {
-        same("check() before " + what, m.check(), MarkovChecker.OK);
-        same("valid before " + what, m.probDen(i, 0) > 0, true);
-        same(what, call.getAsInt(), code);
-        same("valid after " + what, m.probDen(i, 0) > 0, false);
+    void makesNotValid(
+            String what, Supplier<MarkovChecker> make, Function<MarkovChecker, Object> call, Object answer) {
+        MarkovChecker unchecked = make.get();
+        same(what, call.apply(unchecked), answer);
+        notValid(what, unchecked);
+        MarkovChecker checked = make.get();
+        same("check() before " + what, checked.check(), MarkovChecker.OK);
+        same("valid before " + what, checked.probDen(Sample.UNTIL, 0) > 0, true);
+        same(what, call.apply(checked), answer);
+        notValid(what, checked);
+    }
+
+    private void notValid(String what, MarkovChecker m) {
+        for (int i = 0; i < MarkovChecker.MAX_NODES; i++) {
+            for (int s = 0; s < m.stateCount(); s++) {
+                String got = m.holds(i, s) + " " + m.probNum(i, s) + "/" + m.probDen(i, s);
+                same("node " + i + " at state " + s + " after " + what, got, "false 0/0");
+            }
+        }
+    }
+
+    /** The two are to answer alike now, and later too, where what is not seen now would show. */
+    void alike(String what, MarkovChecker m, MarkovChecker twin) {
+        same("picture after " + what, picture(m), picture(twin));
+        same("check() after " + what, m.check(), twin.check());
+        same("picture after " + what + " and check()", picture(m), picture(twin));
+        same("next index after " + what, m.addAtom(MarkovChecker.ATOM_TRUE), twin.addAtom(MarkovChecker.ATOM_TRUE));
+        for (int s = 0; s < twin.stateCount(); s++) {
+            for (int w = MarkovChecker.MAX_WEIGHT; w > 0; w--) {
+                String room = "room for " + w + " in row " + s + " after " + what;
+                same(room, m.setWeight(s, s, w), twin.setWeight(s, s, w));
+            }
+        }
+        same("last check() after " + what, m.check(), twin.check());
+        same("last picture after " + what, picture(m), picture(twin));
     }
 
     void end() {
@@ -72,6 +120,15 @@ final class Due {
                 text.append(' ').append(m.getWeight(s, t));
             }
             text.append(" labels ").append(m.getLabels(s));
+        }
+        return text.toString();
+    }
+
+    /** The kinds of all nodes, and of the places around the table. */
+    static String kinds(MarkovChecker m) {
+        StringBuilder text = new StringBuilder();
+        for (int i = -1; i <= MarkovChecker.MAX_NODES; i++) {
+            text.append(m.nodeKind(i));
         }
         return text.toString();
     }

@@ -1,24 +1,40 @@
 /** Promises 3 and 4: setWeight and getWeight. */
 public final class WeightTest {
-    private static final int[] OUTSIDE = {Integer.MIN_VALUE, -12, -1, 5, 6, 12, 144, Integer.MAX_VALUE};
+    private static final int OK = MarkovChecker.OK;
+    private static final int ERR_ARG = MarkovChecker.ERR_ARG;
+    private static final int ERR_ROW = MarkovChecker.ERR_ROW;
     private static final Due due = new Due();
 
     public static void main(String[] args) {
         everyCell();
-        rowLimit();
-        wrongArguments();
-        orderOfConditions();
-        acceptedMakesNotValid();
+        for (int n = 2; n <= 12; n++) {
+            wrongStates(n);
+            leastAndGreatest(n);
+            getOutside(n);
+        }
+        wrongWeights();
+        fullRow();
+        oldWeightIsTakenOff();
+        tooFullRow();
+        argumentsBeforeRow();
+        severalWrongArguments();
+        refusedLeavesRoom();
+        sameWeight();
+        newWeight();
+        emptyRow();
+        otherCells();
+        getRange();
         due.end();
     }
 
     /** Sets one cell at a time and looks at all of them. */
     private static void everyCell() {
+        due.of("promise 3", "sets w(s,t) = w");
         for (int n = 2; n <= 12; n += 5) {
             MarkovChecker m = new MarkovChecker(n);
             int[][] want = new int[n][n];
             for (int s = 0; s < n; s++) {
-                due.same("empty row " + s, m.setWeight(s, s, 0), MarkovChecker.OK);
+                due.same("empty row " + s, m.setWeight(s, s, 0), OK);
             }
             for (int step = 0; step < n * n * 5; step++) {
                 int s = step * 7 % n;
@@ -28,9 +44,9 @@ public final class WeightTest {
                 for (int u = 0; u < n; u++) {
                     total += want[s][u];
                 }
-                int code = total > 4 ? MarkovChecker.ERR_ROW : MarkovChecker.OK;
+                int code = total > 4 ? ERR_ROW : OK;
                 due.same("setWeight(" + s + ", " + t + ", " + w + ")", m.setWeight(s, t, w), code);
-                if (code == MarkovChecker.OK) {
+                if (code == OK) {
                     want[s][t] = w;
                 }
                 weightsAre(m, want);
@@ -46,68 +62,212 @@ public final class WeightTest {
         }
     }
 
-    private static void rowLimit() {
-        MarkovChecker m = new MarkovChecker(5);
-        due.same("3 beside 1", m.setWeight(0, 1, 3), MarkovChecker.OK);
-        due.refused("a fifth", m, () -> m.setWeight(0, 2, 1), MarkovChecker.ERR_ROW);
-        due.refused("one more", m, () -> m.setWeight(0, 1, 4), MarkovChecker.ERR_ROW);
-        due.same("0 in a full row", m.setWeight(0, 2, 0), MarkovChecker.OK);
-        due.same("the old weight in a full row", m.setWeight(0, 1, 3), MarkovChecker.OK);
-        due.same("less", m.setWeight(0, 1, 2), MarkovChecker.OK);
-        due.same("the room made", m.setWeight(0, 4, 1), MarkovChecker.OK);
-        due.same("other rows have their own room", m.setWeight(1, 0, 3), MarkovChecker.OK);
-        due.same("0 on the diagonal", m.setWeight(2, 2, 0), MarkovChecker.OK);
-        due.same("4 alone", m.setWeight(2, 0, 4), MarkovChecker.OK);
-        due.same("getWeight(2, 0)", m.getWeight(2, 0), 4);
-        due.same("4 for 4", m.setWeight(2, 0, 4), MarkovChecker.OK);
+    private static void wrongStates(int n) {
+        for (int x : Sample.outside(0, n - 1)) {
+            due.of("promise 3", "s not in 0..n-1 gives ERR_ARG");
+            due.changesNothing("state " + x + " of " + n, () -> Sample.of(n), m -> m.setWeight(x, 0, 0), ERR_ARG);
+            due.of("promise 3", "t not in 0..n-1 gives ERR_ARG");
+            due.changesNothing("target " + x + " of " + n, () -> Sample.of(n), m -> m.setWeight(0, x, 0), ERR_ARG);
+        }
     }
 
-    private static MarkovChecker checked() {
+    private static void wrongWeights() {
+        due.of("promise 3", "w not in 0..4 gives ERR_ARG");
+        for (int w : Sample.outside(0, 4)) {
+            due.changesNothing("weight " + w, () -> Sample.of(5), m -> m.setWeight(1, 2, w), ERR_ARG);
+            due.changesNothing("weight " + w + " for 1", () -> Sample.of(5), m -> m.setWeight(1, 1, w), ERR_ARG);
+        }
+    }
+
+    /** The corners of the chain, each with the least and the greatest weight. */
+    private static void leastAndGreatest(int n) {
+        due.of("promise 3", "Otherwise the weight is set, results become not valid, and the answer is OK");
+        int[] ends = {0, n - 1};
+        for (int s : ends) {
+            for (int t : ends) {
+                MarkovChecker m = new MarkovChecker(n);
+                due.same("weight 0 at " + s + ", " + s, m.setWeight(s, s, 0), OK);
+                due.same("weight 4 at " + s + ", " + t, m.setWeight(s, t, 4), OK);
+                due.same("getWeight(" + s + ", " + t + ")", m.getWeight(s, t), 4);
+                due.same("weight 0 at " + s + ", " + t, m.setWeight(s, t, 0), OK);
+                due.same("getWeight(" + s + ", " + t + ")", m.getWeight(s, t), 0);
+            }
+        }
+    }
+
+    private static MarkovChecker withRow(int... weights) {
         MarkovChecker m = new MarkovChecker(5);
-        m.setWeight(0, 1, 2);
-        m.setWeight(0, 2, 1);
-        m.setLabel(1, 0, true);
-        m.addAtom(MarkovChecker.ATOM_TRUE);
+        m.setWeight(0, 0, 0);
+        for (int t = 0; t < weights.length; t++) {
+            due.same("row of weights", m.setWeight(0, t, weights[t]), OK);
+        }
         m.addAtom(0);
-        m.addUntil(0, 1, MarkovChecker.UNBOUNDED);
-        due.same("check()", m.check(), MarkovChecker.OK);
-        due.value(m, 2, 0, 2, 3);
+        m.addAtom(MarkovChecker.ATOM_TRUE);
+        due.same("index of the until node", m.addUntil(0, 1, 1), Sample.UNTIL);
         return m;
     }
 
-    private static void wrongArguments() {
-        MarkovChecker m = checked();
-        for (int x : OUTSIDE) {
-            due.refused("state " + x, m, () -> m.setWeight(x, 0, 0), MarkovChecker.ERR_ARG);
-            due.refused("target " + x, m, () -> m.setWeight(0, x, 0), MarkovChecker.ERR_ARG);
-            due.refused("weight " + x, m, () -> m.setWeight(1, 0, x), MarkovChecker.ERR_ARG);
-            due.refused("getWeight(" + x + ", 0)", m, () -> m.getWeight(x, 0), -1);
-            due.refused("getWeight(0, " + x + ")", m, () -> m.getWeight(0, x), -1);
-            due.refused("getWeight(x, x)", m, () -> m.getWeight(x, x), -1);
+    private static void fullRow() {
+        due.of("What it is", "The row total d(s) = sum over t of w(s,t) is at most 4 at all times.");
+        due.same("4 alone", withRow(0, 0, 0).setWeight(0, 4, 4), OK);
+        due.same("3 beside 1", withRow(1).setWeight(0, 1, 3), OK);
+        due.same("1 beside 3", withRow(3).setWeight(0, 4, 1), OK);
+        due.same("2 beside 2", withRow(0, 2).setWeight(0, 0, 2), OK);
+        due.same("a fourth 1", withRow(1, 1, 1).setWeight(0, 3, 1), OK);
+        due.same("another row", withRow(1, 3).setWeight(1, 0, 3), OK);
+    }
+
+    private static void oldWeightIsTakenOff() {
+        due.of("promise 3", "the row total of s after the change (d(s) minus the old w(s,t) plus w)");
+        due.same("4 for 4", withRow(4).setWeight(0, 0, 4), OK);
+        due.same("3 for 4", withRow(4).setWeight(0, 0, 3), OK);
+        due.same("4 for 3", withRow(3).setWeight(0, 0, 4), OK);
+        due.same("3 for 3 in a full row", withRow(1, 3).setWeight(0, 1, 3), OK);
+        due.same("2 for 3 in a full row", withRow(1, 3).setWeight(0, 1, 2), OK);
+        due.same("0 for 0 in a full row", withRow(1, 3).setWeight(0, 2, 0), OK);
+        due.same("2 for 1 beside 2", withRow(2, 1).setWeight(0, 1, 2), OK);
+    }
+
+    private static void rowRefused(int t, int w, int... weights) {
+        due.changesNothing("weight " + w + " at " + t, () -> withRow(weights), m -> m.setWeight(0, t, w), ERR_ROW);
+    }
+
+    private static void tooFullRow() {
+        due.of("promise 3", "would exceed 4, ERR_ROW");
+        rowRefused(4, 1, 4);
+        rowRefused(4, 4, 4);
+        rowRefused(1, 4, 1);
+        rowRefused(1, 3, 2);
+        rowRefused(4, 1, 1, 1, 1, 1);
+        rowRefused(0, 4, 3, 1);
+        rowRefused(0, 3, 2, 2);
+        rowRefused(3, 2, 1, 1, 1);
+        rowRefused(3, 2, 1, 1, 1, 1);
+    }
+
+    private static void argumentRefused(String what, int s, int t, int w) {
+        due.changesNothing(what, () -> withRow(1, 3), m -> m.setWeight(s, t, w), ERR_ARG);
+    }
+
+    private static void argumentsBeforeRow() {
+        due.of("promise 3", "Conditions are examined in this order");
+        argumentRefused("s before the row", -1, 0, 4);
+        argumentRefused("s before the row", 5, 1, 4);
+        argumentRefused("t before the row", 0, -1, 4);
+        argumentRefused("t before the row", 0, 5, 4);
+        argumentRefused("w before the row", 0, 0, 5);
+        argumentRefused("w before the row", 0, 4, 5);
+        argumentRefused("w before the row", 0, 1, Integer.MAX_VALUE);
+        argumentRefused("w before the row", 0, 1, Integer.MIN_VALUE);
+        argumentRefused("w before the row", 0, 1, -1);
+        due.changesNothing("the row alone", () -> withRow(1, 3), m -> m.setWeight(0, 0, 4), ERR_ROW);
+    }
+
+    private static void severalWrongArguments() {
+        due.of("promise 3", "Conditions are examined in this order");
+        int[] wrong = {Integer.MIN_VALUE, -1, 5, Integer.MAX_VALUE};
+        for (int x : wrong) {
+            argumentRefused("s and t " + x, x, x, 1);
+            argumentRefused("s and w " + x, x, 0, x);
+            argumentRefused("t and w " + x, 0, x, x);
+            argumentRefused("s, t and w " + x, x, x, x);
         }
-        due.refused("5 in a full row", m, () -> m.setWeight(0, 3, 5), MarkovChecker.ERR_ARG);
-        due.refused("row of 5", m, () -> m.setWeight(0, 3, 1), MarkovChecker.ERR_ROW);
-        due.refused("row of 5 in place", m, () -> m.setWeight(0, 1, 3), MarkovChecker.ERR_ROW);
-        due.value(m, 2, 0, 2, 3);
     }
 
-    /** A row that would be too full is told only when the arguments are in order. */
-    private static void orderOfConditions() {
-        MarkovChecker m = checked();
-        due.refused("t before the row", m, () -> m.setWeight(0, 5, 4), MarkovChecker.ERR_ARG);
-        due.refused("s before the row", m, () -> m.setWeight(-1, 1, 4), MarkovChecker.ERR_ARG);
-        due.refused("w before the row", m, () -> m.setWeight(0, 1, 9), MarkovChecker.ERR_ARG);
-        due.refused("the row", m, () -> m.setWeight(0, 1, 4), MarkovChecker.ERR_ROW);
+    private static void refusedLeavesRoom() {
+        due.of("promise 3", "On any refusal nothing changes: no weight, no label, no node");
+        MarkovChecker m = withRow(1, 2);
+        due.same("2 more", m.setWeight(0, 2, 2), ERR_ROW);
+        due.same("getWeight(0, 2)", m.getWeight(0, 2), 0);
+        due.same("4 for 2", m.setWeight(0, 1, 4), ERR_ROW);
+        due.same("getWeight(0, 1)", m.getWeight(0, 1), 2);
+        due.same("the room left", m.setWeight(0, 2, 1), OK);
+        due.same("no room left", m.setWeight(0, 3, 1), ERR_ROW);
     }
 
-    private static void acceptedMakesNotValid() {
-        MarkovChecker m = checked();
-        due.accepted("the same weight", m, 2, () -> m.setWeight(0, 1, 2), MarkovChecker.OK);
-        due.accepted("a new weight", m, 2, () -> m.setWeight(0, 1, 1), MarkovChecker.OK);
-        due.same("labels stay", m.getLabels(1), 1);
-        due.same("nodes stay", m.nodeKind(2), MarkovChecker.KIND_UNTIL);
-        due.same("check()", m.check(), MarkovChecker.OK);
-        due.value(m, 2, 0, 1, 2);
-        due.accepted("an empty row", m, 2, () -> m.setWeight(3, 3, 0), MarkovChecker.OK);
+    private static void sameWeight() {
+        due.of("promise 3", "this holds even when w equals the old weight");
+        int[][] cells = {{0, 0, 1}, {0, 4, 2}, {4, 0, 3}, {0, 1, 0}, {3, 3, 1}};
+        for (int[] cell : cells) {
+            String what = "the same weight " + cell[2];
+            due.makesNotValid(what, () -> Sample.of(5), m -> m.setWeight(cell[0], cell[1], cell[2]), OK);
+            MarkovChecker again = Sample.of(5);
+            again.setWeight(cell[0], cell[1], cell[2]);
+            due.alike(what, again, Sample.of(5));
+        }
+    }
+
+    private static void newWeight() {
+        due.of("promise 3", "Otherwise the weight is set, results become not valid, and the answer is OK");
+        due.makesNotValid("a weight on a new cell", () -> Sample.of(5), m -> m.setWeight(0, 1, 1), OK);
+        due.makesNotValid("another weight", () -> Sample.of(5), m -> m.setWeight(0, 4, 3), OK);
+        due.makesNotValid("no weight", () -> Sample.of(5), m -> m.setWeight(4, 0, 0), OK);
+        MarkovChecker m = Sample.of(5);
+        m.check();
+        due.value(m, Sample.UNTIL, 0, 8, 9);
+        m.setWeight(0, 4, 3);
+        due.same("check()", m.check(), OK);
+        due.value(m, Sample.UNTIL, 0, 15, 16);
+    }
+
+    private static void emptyRow() {
+        due.of("promise 3", "A row total of 0 is allowed here (check refuses it).");
+        due.makesNotValid("an empty row", () -> Sample.of(5), m -> m.setWeight(3, 3, 0), OK);
+        for (int n = 2; n <= 12; n++) {
+            for (int s = 0; s < n; s++) {
+                MarkovChecker m = new MarkovChecker(n);
+                due.same("0 for the last weight", m.setWeight(s, s, 0), OK);
+                due.same("0 in an empty row", m.setWeight(s, (s + 1) % n, 0), OK);
+                for (int t = 0; t < n; t++) {
+                    due.same("getWeight of an empty row", m.getWeight(s, t), 0);
+                }
+                due.same("check() of an empty row", m.check(), ERR_ROW);
+                due.same("4 in an empty row", m.setWeight(s, n - 1, 4), OK);
+            }
+        }
+    }
+
+    private static void otherCells() {
+        due.of("promise 3", "Only w(s,t) changes; other weights, labels and nodes are untouched.");
+        for (int n = 2; n <= 12; n++) {
+            for (int s = 0; s < n; s++) {
+                MarkovChecker m = Sample.filled(n, 16);
+                String kinds = Due.kinds(m);
+                int[][] want = new int[n][n];
+                for (int u = 0; u < n; u++) {
+                    want[u][u] = 1;
+                }
+                want[0][n - 1] = 2;
+                want[n - 1][0] = 3;
+                want[s][s] = 0;
+                due.same("setWeight(" + s + ", " + s + ", 0)", m.setWeight(s, s, 0), OK);
+                weightsAre(m, want);
+                for (int u = 0; u < n; u++) {
+                    due.same("labels of " + u, m.getLabels(u), u == 0 ? 8 : u == n - 1 ? 1 : 0);
+                }
+                due.same("kinds", Due.kinds(m), kinds);
+            }
+        }
+    }
+
+    private static void getOutside(int n) {
+        due.of("promise 4", "it answers -1 if s or t is not in 0..n-1");
+        for (int x : Sample.outside(0, n - 1)) {
+            due.changesNothing("getWeight(" + x + ", 0)", () -> Sample.of(n), m -> m.getWeight(x, 0), -1);
+            due.changesNothing("getWeight(0, " + x + ")", () -> Sample.of(n), m -> m.getWeight(0, x), -1);
+            due.changesNothing("both " + x, () -> Sample.of(n), m -> m.getWeight(x, x), -1);
+        }
+        due.changesNothing("getWeight(n - 1, n)", () -> Sample.of(n), m -> m.getWeight(n - 1, n), -1);
+        due.changesNothing("getWeight(1, -1)", () -> Sample.of(n), m -> m.getWeight(1, -1), -1);
+    }
+
+    private static void getRange() {
+        due.of("promise 4", "answers w(s,t), a value in 0..4");
+        due.changesNothing("getWeight(0, 0)", () -> Sample.of(12), m -> m.getWeight(0, 0), 1);
+        due.changesNothing("getWeight(0, 11)", () -> Sample.of(12), m -> m.getWeight(0, 11), 2);
+        due.changesNothing("getWeight(11, 0)", () -> Sample.of(12), m -> m.getWeight(11, 0), 3);
+        due.changesNothing("getWeight(11, 11)", () -> Sample.of(12), m -> m.getWeight(11, 11), 1);
+        due.changesNothing("getWeight(11, 10)", () -> Sample.of(12), m -> m.getWeight(11, 10), 0);
+        due.changesNothing("the greatest weight", () -> withRow(4), m -> m.getWeight(0, 0), 4);
     }
 }
