@@ -117,28 +117,27 @@ public final class ThresholdTest {
         }
     }
 
-    /** The value 59049/1048576, whose product with a denominator of a threshold needs a long. */
+    /** 44084269/47775744 lies between 944/1024 and 945/1024, and the cross products need a long. */
     private static void largeValues() {
         due.of("What it is", "holds at s iff value(p,s) op num/den, exactly");
-        MarkovChecker m = new MarkovChecker(12);
-        for (int s = 0; s < 10; s++) {
-            m.setWeight(s, s, 0);
-            m.setWeight(s, s + 1, 3);
-            m.setWeight(s, 11, 1);
-        }
-        int goal = Sample.atom(m, 0, 1 << 10);
+        MarkovChecker m = new MarkovChecker(4);
+        Sample.row(m, 0, 3, 0, 1);
+        Sample.row(m, 1, 0, 2, 1);
+        Sample.row(m, 3, 1, 3);
+        int goal = Sample.atom(m, 0, 0b0100);
         int all = m.addAtom(MarkovChecker.ATOM_TRUE);
-        m.addUntil(all, goal, UNBOUNDED);
-        int above = m.addCompare(UNTIL, MarkovChecker.OP_GE, 57, 1024);
-        int notAbove = m.addCompare(UNTIL, MarkovChecker.OP_LE, 57, 1024);
-        int below = m.addCompare(UNTIL, MarkovChecker.OP_LT, 58, 1024);
-        int notBelow = m.addCompare(UNTIL, MarkovChecker.OP_GT, 58, 1024);
+        m.addUntil(all, goal, 8);
+        for (int num = 944; num <= 945; num++) {
+            for (int op = 0; op < 4; op++) {
+                m.addCompare(UNTIL, op, num, 1024);
+            }
+        }
         due.same("check()", m.check(), OK);
-        due.value(m, UNTIL, 0, 59049, 1048576);
-        due.same("above 57/1024", m.holds(above, 0), true);
-        due.same("not above 57/1024", m.holds(notAbove, 0), false);
-        due.same("below 58/1024", m.holds(below, 0), true);
-        due.same("not below 58/1024", m.holds(notBelow, 0), false);
+        due.value(m, UNTIL, 3, 44084269, 47775744);
+        boolean[] want = {true, true, false, false, false, false, true, true};
+        for (int i = 0; i < want.length; i++) {
+            due.same("operator " + i % 4 + " with " + (944 + i / 4) + "/1024", m.holds(3 + i, 3), want[i]);
+        }
     }
 
     /** A coin tossed eight times: 255/256 is 1020/1024. */

@@ -253,15 +253,22 @@ public final class UntilTest {
         due.of("promise 14", "on every other state s equals exactly the sum over t of (w(s,t)/d(s)) * value(t)");
         for (int stay = 0; stay <= 2; stay++) {
             for (int good = 1; good + stay <= 3; good++) {
-                int bad = 4 - stay - good;
-                MarkovChecker m = new MarkovChecker(3);
-                Sample.row(m, 1, bad, stay, good);
-                int node = until(m, 0b111, 0b100, UNBOUNDED);
-                due.value(m, node, 0, 0, 1);
-                due.value(m, node, 1, Sample.reduced(good, 4 - stay), Sample.reduced(4 - stay, good));
-                due.value(m, node, 2, 1, 1);
+                MarkovChecker up = new MarkovChecker(3);
+                Sample.row(up, 1, 4 - stay - good, stay, good);
+                oneOther(up, 0, good, 4 - stay, 2);
+                MarkovChecker down = new MarkovChecker(3);
+                Sample.row(down, 1, good, stay, 4 - stay - good);
+                oneOther(down, 2, good, 4 - stay, 0);
             }
         }
+    }
+
+    /** State 1 leaves for the zero or the goal, once it leaves. */
+    private static void oneOther(MarkovChecker m, int zero, int good, int leaving, int goal) {
+        int node = until(m, 0b111, 1 << goal, UNBOUNDED);
+        due.value(m, node, zero, 0, 1);
+        due.value(m, node, 1, Sample.reduced(good, leaving), Sample.reduced(leaving, good));
+        due.value(m, node, goal, 1, 1);
     }
 
     /** A walk 0, 1, 2, 3, 4 that stays half the time, so that each step on is a head of a coin. */
