@@ -30,6 +30,7 @@ public final class AddTest {
         wrongDenominator();
         wrongNumerator();
         rightThreshold();
+        comparesItsOwnNode();
         severalWrong();
         ownIndex();
         noNodes();
@@ -60,7 +61,8 @@ public final class AddTest {
     }
 
     private static void rightAtoms() {
-        due.of("promise 7", "count grows by one, results become not valid, and the answer is the new index (0..15)");
+        due.of("promise 7", "Otherwise a node of kind KIND_ATOM with label a is appended at index count, "
+            + "count grows by one, results become not valid, and the answer is the new index (0..15)");
         for (int a = 0; a <= 4; a++) {
             int label = a;
             accepted("addAtom(" + a + ")", MarkovChecker.KIND_ATOM, m -> m.addAtom(label));
@@ -96,7 +98,8 @@ public final class AddTest {
     }
 
     private static void wrongChildOfNot() {
-        due.of("promise 8", "An until node, a negative index or an index >= count is refused.");
+        due.of("promise 8", "An until node, a negative index or an index >= count is refused. "
+            + "On refusal nothing changes.");
         refused("addNot(until)", m -> m.addNot(UNTIL));
         for (int x : Sample.outside(0, COUNT - 1)) {
             refused("addNot(" + x + ")", m -> m.addNot(x));
@@ -104,7 +107,8 @@ public final class AddTest {
     }
 
     private static void rightChildOfNot() {
-        due.of("promise 8", "a KIND_NOT node is appended at index count, results become not valid");
+        due.of("promise 8", "Otherwise a KIND_NOT node is appended at index count, results become not valid, "
+            + "and the answer is the new index.");
         for (int x : STATE_NODES) {
             accepted("addNot(" + x + ")", MarkovChecker.KIND_NOT, m -> m.addNot(x));
             MarkovChecker m = Sample.of(4);
@@ -141,8 +145,17 @@ public final class AddTest {
             }
         }
         due.of("promise 9", "a KIND_AND node is appended, results become not valid, and the answer is the new index");
-        accepted("the first and the last", MarkovChecker.KIND_AND, m -> m.addAnd(0, COUNT - 1));
-        accepted("the last and the first", MarkovChecker.KIND_AND, m -> m.addAnd(COUNT - 1, 0));
+        for (int x : STATE_NODES) {
+            for (int y : STATE_NODES) {
+                accepted("addAnd(" + x + ", " + y + ")", MarkovChecker.KIND_AND, m -> m.addAnd(x, y));
+                MarkovChecker m = Sample.of(4);
+                m.addAnd(x, y);
+                m.check();
+                for (int s = 0; s < 4; s++) {
+                    due.same(x + " and " + y + " at " + s, m.holds(COUNT, s), m.holds(x, s) && m.holds(y, s));
+                }
+            }
+        }
     }
 
     private static void wrongChildOfUntil() {
@@ -167,7 +180,8 @@ public final class AddTest {
 
     /** State 0 goes to the goal with 2/3 in each step. */
     private static void rightBound() {
-        due.of("promise 10", "a KIND_UNTIL node with left x, right y and that bound is appended");
+        due.of("promise 10", "Otherwise a KIND_UNTIL node with left x, right y and that bound is appended, "
+            + "results become not valid, and the answer is the new index.");
         long power = 1;
         for (int k = -1; k <= 8; k++) {
             int bound = k;
@@ -247,7 +261,8 @@ public final class AddTest {
     }
 
     private static void rightThreshold() {
-        due.of("promise 11", "a KIND_COMPARE node over p with op and threshold num/den is appended");
+        due.of("promise 11", "Otherwise a KIND_COMPARE node over p with op and threshold num/den is appended, "
+            + "results become not valid, and the answer is the new index.");
         int[] dens = {1, 2, 3, 1023, 1024};
         for (int op = 0; op <= 3; op++) {
             int which = op;
@@ -257,6 +272,24 @@ public final class AddTest {
                 accepted(den + "/" + den, MarkovChecker.KIND_COMPARE, m -> m.addCompare(UNTIL, which, den, den));
             }
         }
+    }
+
+    /** Three until nodes whose values at state 0 are 0, 2/3 and 1. */
+    private static void comparesItsOwnNode() {
+        due.of("What it is", "state node over probability node p with comparison op and threshold num/den");
+        MarkovChecker m = Sample.of(4);
+        int now = m.addUntil(ALL, GOAL, 0);
+        int soon = m.addUntil(ALL, GOAL, 1);
+        int ever = m.addUntil(ALL, GOAL, UNBOUNDED);
+        int overNow = m.addCompare(now, MarkovChecker.OP_GE, 2, 3);
+        int overSoon = m.addCompare(soon, MarkovChecker.OP_LE, 2, 3);
+        int overEver = m.addCompare(ever, MarkovChecker.OP_GT, 2, 3);
+        int overSoonToo = m.addCompare(soon, MarkovChecker.OP_LT, 2, 3);
+        due.same("check()", m.check(), OK);
+        due.truth(m, overNow, 0b1000);
+        due.truth(m, overSoon, 0b0111);
+        due.truth(m, overEver, 0b1001);
+        due.truth(m, overSoonToo, 0b0110);
     }
 
     private static void severalWrong() {
@@ -291,7 +324,8 @@ public final class AddTest {
     }
 
     private static void noNodes() {
-        due.of("What it is", "An *existing state node* is an index in 0..count-1");
+        due.of("What it is", "An *existing state node* is an index in 0..count-1 whose kind is KIND_ATOM, "
+            + "KIND_NOT, KIND_AND or KIND_COMPARE.");
         int[] indices = {-1, 0, 1, 15, 16};
         for (int x : indices) {
             fromNothing("addNot", x, m -> m.addNot(x));

@@ -153,7 +153,7 @@ public final class CheckTest {
     }
 
     private static void valid() {
-        due.of("promise 14", "makes results valid and answers OK");
+        due.of("promise 14", "every until node's exact value at every state, makes results valid and answers OK");
         MarkovChecker m = Sample.of(5);
         due.value(m, Sample.UNTIL, 0, 0, 0);
         due.same("check()", m.check(), OK);

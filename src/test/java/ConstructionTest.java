@@ -10,6 +10,7 @@ public final class ConstructionTest {
         asTheyAre();
         neverChanges();
         for (int n = 2; n <= 12; n++) {
+            statesAre(n);
             freshWeights(n);
             everyStateAbsorbing(n);
             everyRowTotalOne(n);
@@ -54,6 +55,28 @@ public final class ConstructionTest {
         due.of("promise 1", "values 2..12 are taken as they are");
         for (int n = 2; n <= 12; n++) {
             gives(n, n);
+        }
+    }
+
+    /** Every call that takes a state, at all numbers around the states. */
+    private static void statesAre(int n) {
+        due.of("What it is", "The states are 0..n-1, with n fixed by the constructor (2 to 12).");
+        MarkovChecker m = new MarkovChecker(n);
+        m.addAtom(MarkovChecker.ATOM_TRUE);
+        m.addUntil(0, 0, 0);
+        due.same("check()", m.check(), OK);
+        for (int s = -14; s <= 26; s++) {
+            boolean state = s >= 0 && s < n;
+            due.same("getLabels(" + s + ") of " + n, m.getLabels(s), state ? 0 : -1);
+            due.same("getWeight(" + s + ", " + s + ") of " + n, m.getWeight(s, s), state ? 1 : -1);
+            due.same("holds(0, " + s + ") of " + n, m.holds(0, s), state);
+            due.same("probDen(1, " + s + ") of " + n, m.probDen(1, s), state ? 1L : 0L);
+        }
+        for (int s = -14; s <= 26; s++) {
+            int code = s >= 0 && s < n ? OK : MarkovChecker.ERR_ARG;
+            due.same("setLabel(" + s + ", 0, true) of " + n, m.setLabel(s, 0, true), code);
+            due.same("setWeight(" + s + ", 0, 1) of " + n, m.setWeight(s, 0, 1), code);
+            due.same("setWeight(0, " + s + ", 0) of " + n, m.setWeight(0, s, 0), code);
         }
     }
 

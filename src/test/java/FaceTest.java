@@ -21,6 +21,7 @@ public final class FaceTest {
     }
 
     private static void classItself() {
+        due.of("The public face", "public final class MarkovChecker");
         Class<?> type = MarkovChecker.class;
         due.same("public final", type.getModifiers(), Modifier.PUBLIC | Modifier.FINAL);
         due.same("nested classes", type.getDeclaredClasses().length, 0);
@@ -30,6 +31,7 @@ public final class FaceTest {
     }
 
     private static void constants() throws Exception {
+        due.of("What it is", "Public constants.");
         Object[] wanted = {
             "OK", 0, "ERR_ARG", -1, "ERR_FULL", -2, "ERR_ROW", -3,
             "KIND_NONE", 0, "KIND_ATOM", 1, "KIND_NOT", 2, "KIND_AND", 3, "KIND_UNTIL", 4,
@@ -51,6 +53,7 @@ public final class FaceTest {
     }
 
     private static void methods() {
+        due.of("The public face", "public int stateCount(); ... public long probDen(int i, int s);");
         List<String> wanted = List.of(
             "int stateCount()", "int setWeight(int,int,int)", "int getWeight(int,int)",
             "int setLabel(int,int,boolean)", "int getLabels(int)", "int addAtom(int)", "int addNot(int)",
@@ -80,6 +83,7 @@ public final class FaceTest {
     }
 
     private static void fields() {
+        due.of("LANGUAGE.md", "Types: int, long, short, byte, char, boolean, and one-dimensional arrays of these.");
         Set<Class<?>> numbers = new HashSet<>(Arrays.asList(
             int.class, long.class, short.class, byte.class, char.class, boolean.class));
         int own = 0;

@@ -9,6 +9,7 @@ public final class LabelTest {
         everyLabel(7);
         everyLabel(12);
         for (int n = 2; n <= 12; n++) {
+            eachOnOrOff(n);
             wrongStates(n);
             leastAndGreatest(n);
             getOutside(n);
@@ -35,6 +36,28 @@ public final class LabelTest {
             want[s] = on ? want[s] | 1 << a : want[s] & ~(1 << a);
             for (int t = 0; t < n; t++) {
                 due.same("getLabels(" + t + ")", m.getLabels(t), want[t]);
+            }
+        }
+    }
+
+    /** Every label alone at every state alone, seen by getLabels and by the four atoms. */
+    private static void eachOnOrOff(int n) {
+        due.of("What it is", "Each state carries 4 labels, numbered 0..3, each on or off.");
+        MarkovChecker m = new MarkovChecker(n);
+        for (int a = 0; a < 4; a++) {
+            m.addAtom(a);
+        }
+        for (int s = 0; s < n; s++) {
+            for (int a = 0; a < 4; a++) {
+                due.same("setLabel(" + s + ", " + a + ", true)", m.setLabel(s, a, true), OK);
+                m.check();
+                for (int t = 0; t < n; t++) {
+                    due.same("getLabels(" + t + ")", m.getLabels(t), t == s ? 1 << a : 0);
+                }
+                for (int b = 0; b < 4; b++) {
+                    due.truth(m, b, b == a ? 1 << s : 0);
+                }
+                due.same("setLabel(" + s + ", " + a + ", false)", m.setLabel(s, a, false), OK);
             }
         }
     }
@@ -150,7 +173,7 @@ public final class LabelTest {
     }
 
     private static void getRange() {
-        due.of("promise 6", "is set iff label a is on, so the answer lies in 0..15");
+        due.of("promise 6", "bit a (value 1 shifted left by a) is set iff label a is on, so the answer lies in 0..15");
         int[] states = {0, 6, 11};
         for (int s : states) {
             for (int bits = 0; bits <= 15; bits++) {
@@ -158,5 +181,11 @@ public final class LabelTest {
                 due.changesNothing("labels " + bits, () -> withLabels(s, want), m -> m.getLabels(s), want);
             }
         }
+        due.of("promise 6", "Nothing changes.");
+        MarkovChecker all = Sample.of(12);
+        for (int s = 0; s < 12; s++) {
+            due.same("getLabels(" + s + ")", all.getLabels(s), s == 0 ? 8 : s == 11 ? 1 : 0);
+        }
+        due.alike("getLabels of all states", all, Sample.of(12));
     }
 }

@@ -16,6 +16,7 @@ public final class ResultsTest {
             statesOutside(n);
         }
         notValid();
+        bothZero();
         indicesOutside();
         everyOtherBroken();
         holdsOfUntil();
@@ -26,6 +27,7 @@ public final class ResultsTest {
         lastSuccessfulCheck();
         everyAcceptedCall();
         gettersChangeNothing();
+        readingChangesNothing();
         refusedKeepsResults();
         due.end();
     }
@@ -46,14 +48,16 @@ public final class ResultsTest {
 
     /** The first and the last node, at the first and the last state. */
     private static void holdsAtEnds(int n) {
-        due.of("promise 15", "answers true iff results are valid, i is an existing state node, s is in 0..n-1");
+        due.of("promise 15", "answers true iff results are valid, i is an existing state node, s is in 0..n-1, "
+            + "and node i holds at s according to the last successful check");
         MarkovChecker m = checked(n, 16);
         due.same("first node at the first state", m.holds(0, 0), true);
         due.same("first node at the last state", m.holds(0, n - 1), true);
         due.same("last node at the first state", m.holds(15, 0), false);
         due.same("last node at the last state", m.holds(15, n - 1), true);
         due.truth(m, 14, (1 << n) - 1);
-        due.of("promise 16", "the denominator of the reduced value of until node i at state s");
+        due.of("promise 16", "answers the numerator and probDen(i, s) the denominator of the reduced value "
+            + "of until node i at state s");
         due.value(m, UNTIL, 0, 8, 9);
         due.value(m, UNTIL, n - 1, 1, 1);
     }
@@ -77,6 +81,24 @@ public final class ResultsTest {
             for (int s = 0; s < 5; s++) {
                 due.value(m, i, s, 0, 0);
             }
+        }
+    }
+
+    /** Both with results not valid and with results valid, where only the last two cases are left. */
+    private static void bothZero() {
+        due.of("promise 16", "Both answer 0 if results are not valid, i is not an existing until node, "
+            + "or s is not in 0..n-1.");
+        MarkovChecker m = Sample.of(5);
+        for (int round = 0; round < 2; round++) {
+            for (int i = -2; i <= 17; i++) {
+                for (int s = -2; s <= 13; s++) {
+                    boolean value = round == 1 && i == UNTIL && s >= 0 && s < 5;
+                    due.same("probNum(" + i + ", " + s + ") > 0", m.probNum(i, s) > 0, value && (s == 0 || s == 4));
+                    due.same("probDen(" + i + ", " + s + ") > 0", m.probDen(i, s) > 0, value);
+                    due.same("one below 0", m.probNum(i, s) < 0 || m.probDen(i, s) < 0, false);
+                }
+            }
+            due.same("check()", m.check(), OK);
         }
     }
 
@@ -149,7 +171,8 @@ public final class ResultsTest {
     }
 
     private static void reduced() {
-        due.of("promise 16", "probNum a value in 0..probDen, the two have greatest common divisor 1");
+        due.of("promise 16", "Otherwise probDen answers a value >= 1, probNum a value in 0..probDen, "
+            + "the two have greatest common divisor 1");
         for (int w = 1; w <= 2; w++) {
             for (int bound = -1; bound <= 8; bound++) {
                 MarkovChecker m = new MarkovChecker(3);
@@ -219,7 +242,8 @@ public final class ResultsTest {
     }
 
     private static void everyAcceptedCall() {
-        due.of("What it is", "makes results not valid, even if nothing differs");
+        due.of("What it is", "Every accepted call of setWeight, setLabel, addAtom, addNot, addAnd, addUntil, "
+            + "addCompare and every call of clearFormulas makes results not valid, even if nothing differs.");
         due.makesNotValid("setWeight", () -> Sample.of(5), m -> m.setWeight(1, 1, 1), OK);
         due.makesNotValid("setLabel", () -> Sample.of(5), m -> m.setLabel(1, 1, false), OK);
         due.makesNotValid("addAtom", () -> Sample.of(5), m -> m.addAtom(0), COUNT);
@@ -236,7 +260,8 @@ public final class ResultsTest {
     }
 
     private static void gettersChangeNothing() {
-        due.of("What it is", "nodeKind, holds, probNum and probDen never change anything");
+        due.of("What it is", "The getters stateCount, getWeight, getLabels, nodeKind, holds, probNum and probDen "
+            + "never change anything.");
         due.changesNothing("stateCount()", () -> Sample.of(5), m -> m.stateCount(), 5);
         due.changesNothing("getWeight(0, 4)", () -> Sample.of(5), m -> m.getWeight(0, 4), 2);
         due.changesNothing("getLabels(0)", () -> Sample.of(5), m -> m.getLabels(0), 8);
@@ -249,6 +274,19 @@ public final class ResultsTest {
             due.same("probDen(2, 0)", m.probDen(UNTIL, 0), 9L);
         }
         due.alike("holds, probNum and probDen", m, twin);
+    }
+
+    /** The picture asks for every node at every state, and asking for it again gives the same. */
+    private static void readingChangesNothing() {
+        due.of("promises 15 and 16", "Nothing changes.");
+        for (int n = 2; n <= 12; n++) {
+            MarkovChecker unchecked = Sample.filled(n, 16);
+            due.same("second reading", Due.picture(unchecked), Due.picture(unchecked));
+            due.alike("reading with results not valid", unchecked, Sample.filled(n, 16));
+            MarkovChecker checked = checked(n, 16);
+            due.same("second reading", Due.picture(checked), Due.picture(checked));
+            due.alike("reading with results valid", checked, checked(n, 16));
+        }
     }
 
     private static void refusedKeepsResults() {

@@ -31,7 +31,7 @@ public final class TableTest {
     }
 
     private static void clears() {
-        due.of("promise 12", "removes all nodes (count becomes 0)");
+        due.of("promise 12", "removes all nodes (count becomes 0) and makes results not valid");
         for (int count = Sample.COUNT; count <= 16; count++) {
             MarkovChecker m = Sample.filled(4, count);
             m.clearFormulas();
@@ -119,7 +119,7 @@ public final class TableTest {
     }
 
     private static void kindsAndIndices() {
-        due.of("promise 13", "It answers the same whether results are valid or not.");
+        due.of("promise 13", "answers the kind of node i (KIND_ATOM, KIND_NOT, KIND_AND, KIND_UNTIL or KIND_COMPARE)");
         MarkovChecker m = Sample.of(3);
         due.same("addNot(3)", m.addNot(3), 6);
         due.same("addAnd(4, 4)", m.addAnd(4, 4), 7);
@@ -133,6 +133,7 @@ public final class TableTest {
         due.same("addUntil(14, 0, -1)", m.addUntil(14, 0, -1), 15);
         int[] kinds = {1, 1, 4, 5, 2, 3, 2, 3, 4, 4, 5, 5, 1, 3, 2, 4};
         kindsAre(m, kinds);
+        due.of("promise 13", "It answers the same whether results are valid or not.");
         due.same("check()", m.check(), OK);
         kindsAre(m, kinds);
         m.setLabel(0, 0, true);

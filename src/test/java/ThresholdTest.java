@@ -6,6 +6,7 @@ public final class ThresholdTest {
     private static final Due due = new Due();
 
     public static void main(String[] args) {
+        fourOperators();
         equalToOneThird();
         nextToOneThird();
         zeroAndOne();
@@ -36,6 +37,18 @@ public final class ThresholdTest {
     private static void allOperators(int bound, int num, int den, int... truths) {
         for (int op = 0; op < 4; op++) {
             compared(withValue(1, 2, bound), op, num, den, truths[op]);
+        }
+    }
+
+    /** The values 1/2, 1 and 0 against 1/2: equal, above and below. */
+    private static void fourOperators() {
+        due.of("What it is", "where op is OP_GE (>=), OP_GT (>), OP_LE (<=) or OP_LT (<)");
+        int[] bounds = {UNBOUNDED, 1};
+        for (int bound : bounds) {
+            compared(withValue(2, 2, bound), MarkovChecker.OP_GE, 1, 2, 0b011);
+            compared(withValue(2, 2, bound), MarkovChecker.OP_GT, 1, 2, 0b010);
+            compared(withValue(2, 2, bound), MarkovChecker.OP_LE, 1, 2, 0b101);
+            compared(withValue(2, 2, bound), MarkovChecker.OP_LT, 1, 2, 0b100);
         }
     }
 

@@ -29,6 +29,7 @@ public final class UntilTest {
         unboundedSets();
         ruin();
         tenInARow();
+        childrenOfEveryKind();
         due.end();
     }
 
@@ -370,6 +371,46 @@ public final class UntilTest {
             sum = sum * base + 1;
         }
         return sum;
+    }
+
+    private static MarkovChecker denseWithEnd() {
+        MarkovChecker m = dense(6);
+        Sample.row(m, 5, 0, 0, 0, 0, 0, 1);
+        return m;
+    }
+
+    private static int[] nodeOfEveryKind(MarkovChecker m) {
+        int atom = Sample.atom(m, 2, 0b011011);
+        int not = m.addNot(atom);
+        int and = m.addAnd(atom, Sample.atom(m, 3, 0b110001));
+        int compare = m.addCompare(m.addUntil(atom, not, 1), MarkovChecker.OP_GT, 1, 4);
+        return new int[] {atom, not, and, compare};
+    }
+
+    private static int set(MarkovChecker m, int i) {
+        int set = 0;
+        for (int s = 0; s < m.stateCount(); s++) {
+            set |= m.holds(i, s) ? 1 << s : 0;
+        }
+        return set;
+    }
+
+    /** Nodes of every kind as children, against atoms that are on at the same states. */
+    private static void childrenOfEveryKind() {
+        due.of("What it is", "Let PHI be the states where x holds and PSI the states where y holds.");
+        for (int pair = 0; pair < 16; pair++) {
+            for (int k : BOUNDS) {
+                MarkovChecker m = denseWithEnd();
+                int[] nodes = nodeOfEveryKind(m);
+                int node = m.addUntil(nodes[pair / 4], nodes[pair % 4], k);
+                due.same("check()", m.check(), OK);
+                MarkovChecker plain = denseWithEnd();
+                int same = until(plain, set(m, nodes[pair / 4]), set(m, nodes[pair % 4]), k);
+                for (int s = 0; s < 6; s++) {
+                    due.value(m, node, s, plain.probNum(same, s), plain.probDen(same, s));
+                }
+            }
+        }
     }
 
     /** Ten states in a row that go on or fail: 4^10, the greatest denominator of an unbounded until. */

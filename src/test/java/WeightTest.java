@@ -8,6 +8,7 @@ public final class WeightTest {
     public static void main(String[] args) {
         everyCell();
         for (int n = 2; n <= 12; n++) {
+            everyPair(n);
             wrongStates(n);
             leastAndGreatest(n);
             getOutside(n);
@@ -19,6 +20,7 @@ public final class WeightTest {
         argumentsBeforeRow();
         severalWrongArguments();
         refusedLeavesRoom();
+        refusedKeepsResults();
         sameWeight();
         newWeight();
         emptyRow();
@@ -50,6 +52,21 @@ public final class WeightTest {
                     want[s][t] = w;
                 }
                 weightsAre(m, want);
+            }
+        }
+    }
+
+    private static void everyPair(int n) {
+        due.of("What it is", "Each ordered pair (s,t), including s = t, has an integer weight w(s,t) in 0..4.");
+        for (int s = 0; s < n; s++) {
+            for (int t = 0; t < n; t++) {
+                MarkovChecker m = new MarkovChecker(n);
+                m.setWeight(s, s, 0);
+                for (int w = -1; w <= 5; w++) {
+                    int code = w >= 0 && w <= 4 ? OK : ERR_ARG;
+                    due.same("setWeight(" + s + ", " + t + ", " + w + ")", m.setWeight(s, t, w), code);
+                    due.same("getWeight(" + s + ", " + t + ")", m.getWeight(s, t), Math.max(0, Math.min(w, 4)));
+                }
             }
         }
     }
@@ -133,7 +150,7 @@ public final class WeightTest {
     }
 
     private static void tooFullRow() {
-        due.of("promise 3", "would exceed 4, ERR_ROW");
+        due.of("promise 3", "would exceed 4, ERR_ROW. On any refusal nothing changes");
         rowRefused(4, 1, 4);
         rowRefused(4, 4, 4);
         rowRefused(1, 4, 1);
@@ -183,6 +200,20 @@ public final class WeightTest {
         due.same("getWeight(0, 1)", m.getWeight(0, 1), 2);
         due.same("the room left", m.setWeight(0, 2, 1), OK);
         due.same("no room left", m.setWeight(0, 3, 1), ERR_ROW);
+    }
+
+    private static void refusedKeepsResults() {
+        due.of("promise 3", "and results keep their validity");
+        MarkovChecker m = Sample.of(5);
+        due.same("refused with results not valid", m.setWeight(0, 0, 3), ERR_ROW);
+        due.value(m, Sample.UNTIL, 0, 0, 0);
+        due.same("check()", m.check(), OK);
+        int[][] refused = {{-1, 0, 0, ERR_ARG}, {0, 5, 0, ERR_ARG}, {0, 0, 5, ERR_ARG}, {0, 0, 3, ERR_ROW}};
+        for (int[] one : refused) {
+            due.same("refused with results valid", m.setWeight(one[0], one[1], one[2]), one[3]);
+            due.value(m, Sample.UNTIL, 0, 8, 9);
+            due.truth(m, Sample.COMPARE, 0b10001);
+        }
     }
 
     private static void sameWeight() {
@@ -263,6 +294,15 @@ public final class WeightTest {
 
     private static void getRange() {
         due.of("promise 4", "answers w(s,t), a value in 0..4");
+        MarkovChecker all = Sample.of(12);
+        for (int s = 0; s < 12; s++) {
+            for (int t = 0; t < 12; t++) {
+                int want = s == 0 && t == 11 ? 2 : s == 11 && t == 0 ? 3 : s == t ? 1 : 0;
+                due.same("getWeight(" + s + ", " + t + ")", all.getWeight(s, t), want);
+            }
+        }
+        due.of("promise 4", "Nothing changes.");
+        due.alike("getWeight of all pairs", all, Sample.of(12));
         due.changesNothing("getWeight(0, 0)", () -> Sample.of(12), m -> m.getWeight(0, 0), 1);
         due.changesNothing("getWeight(0, 11)", () -> Sample.of(12), m -> m.getWeight(0, 11), 2);
         due.changesNothing("getWeight(11, 0)", () -> Sample.of(12), m -> m.getWeight(11, 0), 3);
