@@ -3,7 +3,8 @@ import java.util.List;
 
 /**
  * Promise 14: the values of until nodes held against the definitions themselves, with no chain's
- * values worked out beforehand: every chain of two and of three states, and some of twelve.
+ * values worked out beforehand: on every chain of two states with every bound, on every chain of
+ * three states without a bound and on some with one, and on some of twelve states without one.
  */
 public final class DefinitionTest {
     private static final int UNBOUNDED = MarkovChecker.UNBOUNDED;
